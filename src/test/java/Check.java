@@ -1,29 +1,47 @@
 /** Counts the answers that are not as due and ends the test accordingly. */
 final class Check {
-    private static final int MOST_PRINTED = 40;
+    private static final int MOST_PRINTED = 12;
 
+    private String sentence = "";
+    private int sentences = 0;
     private int looked = 0;
     private int wrong = 0;
+    private int printed = 0;
+
+    /** From here on the answers belong to this sentence of the document, which is told with each wrong one. */
+    void sentence(String where, String words) {
+        sentence = where + " \"" + words + "\": ";
+        sentences++;
+        printed = 0;
+    }
 
     void due(String call, long got, long want) {
         looked++;
-        if (got == want) {
-            return;
+        if (got != want) {
+            tell(call + " answered " + got + ", due is " + want);
         }
-        wrong++;
-        if (wrong <= MOST_PRINTED) {
-            System.out.println(call + " answered " + got + ", due is " + want);
+    }
+
+    void due(String what, String got, String want) {
+        looked++;
+        if (!got.equals(want)) {
+            tell(what + " is [" + got + "], due is [" + want + "]");
         }
     }
 
     void holds(String what, boolean is) {
         looked++;
-        if (is) {
-            return;
+        if (!is) {
+            tell("does not hold: " + what);
         }
+    }
+
+    // Each sentence has its own share of lines, so that a noisy one hides no other.
+    private void tell(String line) {
         wrong++;
-        if (wrong <= MOST_PRINTED) {
-            System.out.println("does not hold: " + what);
+        printed++;
+        if (printed <= MOST_PRINTED) {
+            System.out.println(sentence + line);
         }
     }
 
@@ -36,6 +54,7 @@ final class Check {
             System.out.println(wrong + " of " + looked + " answers are not as due");
             System.exit(1);
         }
-        System.out.println("all " + looked + " answers are as due");
+        String of = sentences == 0 ? "" : " for " + sentences + " sentences";
+        System.out.println("all " + looked + " answers are as due" + of);
     }
 }
