@@ -15,6 +15,18 @@ final class Check {
         printed = 0;
     }
 
+    /** Runs the tests one by one: a call that throws is wrong too, and must not hide the tests after it. */
+    void each(Runnable... tests) {
+        for (Runnable test : tests) {
+            try {
+                test.run();
+            } catch (RuntimeException thrown) {
+                tell("a call threw " + thrown);
+            }
+        }
+        end();
+    }
+
     void due(String call, long got, long want) {
         looked++;
         if (got != want) {

@@ -1,5 +1,14 @@
-/** Everything that can be asked of a RelexBuffer, as one string: two pictures are equal if nothing has changed. */
+import java.util.ArrayList;
+import java.util.List;
+import java.util.function.ToIntFunction;
+
+/** Everything that can be asked of a RelexBuffer: two pictures are equal if nothing has changed. */
 final class Picture {
+    /** Single questions about the tables and the sizes, the latter by the BAD answers around them. */
+    private static final List<ToIntFunction<RelexBuffer>> TABLES = aboutTables();
+    /** Single questions about the text, the tokens with their births, and the count of splices. */
+    private static final List<ToIntFunction<RelexBuffer>> TEXT = aboutText();
+
     private Picture() {
     }
 
@@ -7,38 +16,59 @@ final class Picture {
         return tables(x) + text(x);
     }
 
-    /** The tables and the sizes, the latter by the BAD answers around them. */
     static String tables(RelexBuffer x) {
+        return answers(TABLES, x);
+    }
+
+    static String text(RelexBuffer x) {
+        return answers(TEXT, x);
+    }
+
+    static List<ToIntFunction<RelexBuffer>> questions() {
+        List<ToIntFunction<RelexBuffer>> all = new ArrayList<>(TABLES);
+        all.addAll(TEXT);
+        return all;
+    }
+
+    private static String answers(List<ToIntFunction<RelexBuffer>> questions, RelexBuffer x) {
         StringBuilder all = new StringBuilder();
-        for (int state = -1; state <= 16; state++) {
-            all.append("\nstate ").append(state).append(':');
-            for (int sym = -1; sym <= 8; sym++) {
-                all.append(' ').append(x.edge(state, sym));
-            }
-            all.append(" accepts ").append(x.acceptKind(state)).append(' ').append(x.acceptMode(state));
-        }
-        all.append("\nstarts:");
-        for (int mode = -1; mode <= 4; mode++) {
-            all.append(' ').append(x.start(mode));
+        for (ToIntFunction<RelexBuffer> question : questions) {
+            all.append(question.applyAsInt(x)).append(' ');
         }
         return all.toString();
     }
 
-    /** The text, the tokens with their births, and the count of splices. */
-    static String text(RelexBuffer x) {
-        StringBuilder all = new StringBuilder();
-        all.append("\nedits ").append(x.edits()).append(" length ").append(x.length());
-        all.append(" tokens ").append(x.tokenCount()).append(" end mode ").append(x.endMode());
-        for (int pos = -1; pos <= 65; pos++) {
-            all.append("\nat ").append(pos).append(": ").append(x.symbolAt(pos));
-            all.append(' ').append(x.tokenAt(pos)).append(' ').append(x.stableCount(pos));
+    private static List<ToIntFunction<RelexBuffer>> aboutTables() {
+        List<ToIntFunction<RelexBuffer>> all = new ArrayList<>();
+        for (int v = -1; v <= 16; v++) {
+            int state = v;
+            for (int w = -1; w <= 8; w++) {
+                int sym = w;
+                all.add(x -> x.edge(state, sym));
+            }
+            all.add(x -> x.acceptKind(state));
+            all.add(x -> x.acceptMode(state));
+            all.add(x -> x.start(state));
         }
-        for (int i = -1; i <= 64; i++) {
-            all.append("\ntoken ").append(i).append(':');
-            for (int field = -1; field <= 6; field++) {
-                all.append(' ').append(x.token(i, field));
+        return all;
+    }
+
+    private static List<ToIntFunction<RelexBuffer>> aboutText() {
+        List<ToIntFunction<RelexBuffer>> all = new ArrayList<>();
+        all.add(x -> x.edits());
+        all.add(x -> x.length());
+        all.add(x -> x.tokenCount());
+        all.add(x -> x.endMode());
+        for (int v = -1; v <= 65; v++) {
+            int at = v;
+            all.add(x -> x.symbolAt(at));
+            all.add(x -> x.tokenAt(at));
+            all.add(x -> x.stableCount(at));
+            for (int w = -1; w <= 6; w++) {
+                int field = w;
+                all.add(x -> x.token(at, field));
             }
         }
-        return all.toString();
+        return all;
     }
 }

@@ -8,48 +8,49 @@ public final class SpliceEdgesTest {
         65, 72, 127, 128, 256, 65536, 1 << 30, Integer.MAX_VALUE - 8, Integer.MAX_VALUE - 1, Integer.MAX_VALUE
     };
     private static final String[] TEXTS = {
-        "", "a", "b", "\"", "aab\"ab\"a", "aabbaabb", "\"ab a\"ab", "b b b b ", "a\"\"a\"\"a", "aaaaaaaa", "\"aaaaaaa", "aabaabaa"
+        "", "a", "b", "\"", "aab\"ab\"a", "aabbaabb", "\"ab a\"ab", "b b b b ",
+        "a\"\"a\"\"a", "aaaaaaaa", "\"aaaaaaa", "aabaabaa"
     };
     private static final String[] PIECES = {"", "a", "b", "\"", " ", "bb", "\"\"", "a\"", "\"b", "bab"};
 
     public static void main(String[] args) {
-        removesAndPuts();
-        kthNewSymbol();
-        otherBitsAreIgnored();
-        negativePacked();
-        restOfTheText();
-        wrongPos();
-        wrongDel();
-        wrongN();
-        wrongSymbol();
-        nothingToDo();
-        tooLong();
-        executed();
-        lengthBefore();
-        fullTextCanBeSpliced();
-        nextNumber();
-        tokensOfTheNewText();
-        oldListJustBefore();
-        birthBefore();
-        birthBeforeSwept();
-        birthBehind();
-        birthBehindSwept();
-        birthFresh();
-        birthFreshSwept();
-        oldReachInOldText();
-        nothingElseHasToAgree();
-        answerCountsTheFresh();
-        newTextIsEmpty();
-        tablesAndSizesStay();
-        editsCounts();
-        editsDoesNotCount();
-        editsChangesNothing();
-        lengthFromZeroToCapacity();
-        lengthChangesNothing();
-        symbolAtBad();
-        symbolAtAnswers();
-        symbolAtChangesNothing();
-        CHECK.end();
+        CHECK.each(
+            SpliceEdgesTest::removesAndPuts,
+            SpliceEdgesTest::kthNewSymbol,
+            SpliceEdgesTest::otherBitsAreIgnored,
+            SpliceEdgesTest::negativePacked,
+            SpliceEdgesTest::restOfTheText,
+            SpliceEdgesTest::wrongPos,
+            SpliceEdgesTest::wrongDel,
+            SpliceEdgesTest::wrongN,
+            SpliceEdgesTest::wrongSymbol,
+            SpliceEdgesTest::nothingToDo,
+            SpliceEdgesTest::tooLong,
+            SpliceEdgesTest::executed,
+            SpliceEdgesTest::lengthBefore,
+            SpliceEdgesTest::fullTextCanBeSpliced,
+            SpliceEdgesTest::nextNumber,
+            SpliceEdgesTest::tokensOfTheNewText,
+            SpliceEdgesTest::oldListJustBefore,
+            SpliceEdgesTest::birthBefore,
+            SpliceEdgesTest::birthBeforeSwept,
+            SpliceEdgesTest::birthBehind,
+            SpliceEdgesTest::birthBehindSwept,
+            SpliceEdgesTest::birthFresh,
+            SpliceEdgesTest::birthFreshSwept,
+            SpliceEdgesTest::oldReachInOldText,
+            SpliceEdgesTest::nothingElseHasToAgree,
+            SpliceEdgesTest::answerCountsTheFresh,
+            SpliceEdgesTest::newTextIsEmpty,
+            SpliceEdgesTest::tablesAndSizesStay,
+            SpliceEdgesTest::editsCounts,
+            SpliceEdgesTest::editsDoesNotCount,
+            SpliceEdgesTest::editsChangesNothing,
+            SpliceEdgesTest::lengthFromZeroToCapacity,
+            SpliceEdgesTest::lengthChangesNothing,
+            SpliceEdgesTest::symbolAtBad,
+            SpliceEdgesTest::symbolAtAnswers,
+            SpliceEdgesTest::symbolAtChangesNothing);
     }
 
     private static RelexBuffer plain(int capacity, String text) {
@@ -129,10 +130,10 @@ public final class SpliceEdgesTest {
         for (int n = 0; n <= 8; n++) {
             RelexBuffer x = new RelexBuffer(16, 4, 8, 1);
             x.splice(0, 0, 2, 0);
-            CHECK.due("splice(1, 0, " + n + ", 0x01234567)", x.splice(1, 0, n, 0x01234567), n);
+            CHECK.due("splice(1, 0, " + n + ", 0x10325476)", x.splice(1, 0, n, 0x10325476), n);
             CHECK.due("length()", x.length(), n + 2);
             for (int k = 0; k < n; k++) {
-                CHECK.due("symbolAt(" + (1 + k) + ")", x.symbolAt(1 + k), 7 - k);
+                CHECK.due("symbolAt(" + (1 + k) + ")", x.symbolAt(1 + k), k ^ 6);
             }
             CHECK.due("the symbol before", x.symbolAt(0), 0);
             CHECK.due("the symbol behind", x.symbolAt(n + 1), 0);
@@ -273,7 +274,8 @@ public final class SpliceEdgesTest {
                 refused(text, 0, pos, 0, 0, 0);
                 refused(text, 0, pos, 0, 0, -1);
                 int at = pos;
-                Untouched.by(CHECK, () -> plain(8, text), "splice(" + pos + ", 0, 0, 4)", x -> x.splice(at, 0, 0, 4), 0);
+                String call = "splice(" + pos + ", 0, 0, 4)";
+                Untouched.by(CHECK, () -> plain(8, text), call, x -> x.splice(at, 0, 0, 4), 0);
             }
         }
     }
@@ -331,7 +333,8 @@ public final class SpliceEdgesTest {
             CHECK.due("up to capacity " + capacity, Sample.put(x, capacity - 8, 0, "bbbbbbbb"), 8);
             CHECK.due("length()", x.length(), capacity);
             for (int del = 1; del <= 8; del++) {
-                CHECK.due("as many as removed, " + del, Sample.put(x, capacity - del, del, "        ".substring(0, del)), del);
+                int answer = Sample.put(x, capacity - del, del, " ".repeat(del));
+                CHECK.due("as many as removed, " + del, answer, del);
                 CHECK.due("length()", x.length(), capacity);
             }
             CHECK.due("at the front", Sample.put(x, 0, 1, "b"), 1);
@@ -570,8 +573,8 @@ public final class SpliceEdgesTest {
     }
 
     private static void newTextIsEmpty() {
-        CHECK.sentence("Promise 9", "If the new text is empty, the new list is empty and the answer is 0, but the splice"
-            + " is executed and has its number; the numbering goes on from there.");
+        CHECK.sentence("Promise 9", "If the new text is empty, the new list is empty and the answer is 0, but the"
+            + " splice is executed and has its number; the numbering goes on from there.");
         for (String text : TEXTS) {
             RelexBuffer x = plain(8, text);
             int before = x.edits();
@@ -613,8 +616,8 @@ public final class SpliceEdgesTest {
     }
 
     private static void editsDoesNotCount() {
-        CHECK.sentence("Promise 10", "Splices answered with `BAD` or `FULL`, and those with `del` == 0 and `n` == 0, are"
-            + " not counted.");
+        CHECK.sentence("Promise 10", "Splices answered with `BAD` or `FULL`, and those with `del` == 0 and `n` == 0,"
+            + " are not counted.");
         RelexBuffer x = plain(8, "aab\"ab\"a");
         CHECK.due("edits()", x.edits(), 3);
         CHECK.due("bad pos", x.splice(9, 0, 1, 0), BAD);
@@ -666,8 +669,8 @@ public final class SpliceEdgesTest {
     }
 
     private static void symbolAtBad() {
-        CHECK.sentence("Promise 12", "`symbolAt(pos)` answers `BAD` if `pos` < 0 or `pos` >= length; so with an empty text"
-            + " it always answers `BAD`.");
+        CHECK.sentence("Promise 12", "`symbolAt(pos)` answers `BAD` if `pos` < 0 or `pos` >= length; so with an empty"
+            + " text it always answers `BAD`.");
         RelexBuffer x = Sample.empty(64);
         for (int length = 0; length <= 64; length++) {
             for (int pos = -2; pos <= 66; pos++) {

@@ -8,16 +8,16 @@ public final class StartEdgesTest {
     private static final int[] BETWEEN = {20, 7, 5, 2};
 
     public static void main(String[] args) {
-        anyIntValues();
-        eachOnItsOwn();
-        belowTheLeast();
-        aboveTheGreatest();
-        rangesInclusive();
-        sizesNeverChange();
-        emptyAtTheStart();
-        tablesAtTheStart();
-        fourZeros();
-        CHECK.end();
+        CHECK.each(
+            StartEdgesTest::anyIntValues,
+            StartEdgesTest::eachOnItsOwn,
+            StartEdgesTest::belowTheLeast,
+            StartEdgesTest::aboveTheGreatest,
+            StartEdgesTest::rangesInclusive,
+            StartEdgesTest::sizesNeverChange,
+            StartEdgesTest::emptyAtTheStart,
+            StartEdgesTest::tablesAtTheStart,
+            StartEdgesTest::fourZeros);
     }
 
     private static RelexBuffer made(int[] sizes) {
@@ -95,8 +95,9 @@ public final class StartEdgesTest {
     private static void rangesInclusive() {
         CHECK.sentence(WHERE, "The ranges are capacity 8..64, states 4..16, alphabet 2..8, modes 1..4.");
         for (int which = 0; which < 4; which++) {
-            for (int v = LEAST[which]; v <= GREATEST[which]; v++) {
-                sizesAre(made(with(BETWEEN, which, v)), "argument " + which + " is " + v, with(BETWEEN, which, v));
+            for (int v = LEAST[which] - 1; v <= GREATEST[which] + 1; v++) {
+                int due = Math.max(LEAST[which], Math.min(GREATEST[which], v));
+                sizesAre(made(with(BETWEEN, which, v)), "argument " + which + " is " + v, with(BETWEEN, which, due));
             }
         }
         sizesAre(made(LEAST), "all least", LEAST);

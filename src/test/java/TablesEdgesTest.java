@@ -16,39 +16,39 @@ public final class TablesEdgesTest {
     };
 
     public static void main(String[] args) {
-        edgesUnderEveryBit();
-        edgesFromNoState();
-        edgesWithWrongMask();
-        edgesToNoState();
-        edgesLocked();
-        edgesSet();
-        edgesLeaveTheRest();
-        acceptOfNoState();
-        acceptOfNoKind();
-        acceptOfNoMode();
-        acceptLocked();
-        acceptSet();
-        acceptLeavesTheRest();
-        startOfNoMode();
-        startAtNoState();
-        startLocked();
-        startSet();
-        startLeavesTheRest();
-        edgeBad();
-        edgeNone();
-        edgeWithAndWithoutText();
-        edgeChangesNothing();
-        acceptKindBad();
-        acceptKindZero();
-        acceptKindChangesNothing();
-        acceptModeBad();
-        acceptModeStay();
-        acceptModeAsSuch();
-        acceptModeChangesNothing();
-        startBad();
-        startAnswers();
-        startChangesNothing();
-        CHECK.end();
+        CHECK.each(
+            TablesEdgesTest::edgesUnderEveryBit,
+            TablesEdgesTest::edgesFromNoState,
+            TablesEdgesTest::edgesWithWrongMask,
+            TablesEdgesTest::edgesToNoState,
+            TablesEdgesTest::edgesLocked,
+            TablesEdgesTest::edgesSet,
+            TablesEdgesTest::edgesLeaveTheRest,
+            TablesEdgesTest::acceptOfNoState,
+            TablesEdgesTest::acceptOfNoKind,
+            TablesEdgesTest::acceptOfNoMode,
+            TablesEdgesTest::acceptLocked,
+            TablesEdgesTest::acceptSet,
+            TablesEdgesTest::acceptLeavesTheRest,
+            TablesEdgesTest::startOfNoMode,
+            TablesEdgesTest::startAtNoState,
+            TablesEdgesTest::startLocked,
+            TablesEdgesTest::startSet,
+            TablesEdgesTest::startLeavesTheRest,
+            TablesEdgesTest::edgeBad,
+            TablesEdgesTest::edgeNone,
+            TablesEdgesTest::edgeWithAndWithoutText,
+            TablesEdgesTest::edgeChangesNothing,
+            TablesEdgesTest::acceptKindBad,
+            TablesEdgesTest::acceptKindZero,
+            TablesEdgesTest::acceptKindChangesNothing,
+            TablesEdgesTest::acceptModeBad,
+            TablesEdgesTest::acceptModeStay,
+            TablesEdgesTest::acceptModeAsSuch,
+            TablesEdgesTest::acceptModeChangesNothing,
+            TablesEdgesTest::startBad,
+            TablesEdgesTest::startAnswers,
+            TablesEdgesTest::startChangesNothing);
     }
 
     private static RelexBuffer made(int[] sizes) {
@@ -67,8 +67,8 @@ public final class TablesEdgesTest {
     }
 
     private static void edgesUnderEveryBit() {
-        CHECK.sentence("Promise 2", "`setEdges(from, mask, to)` sets the edges of state `from` under every symbol c whose"
-            + " bit (1 << c) is set in `mask`.");
+        CHECK.sentence("Promise 2", "`setEdges(from, mask, to)` sets the edges of state `from` under every symbol c"
+            + " whose bit (1 << c) is set in `mask`.");
         for (int[] s : SIZES) {
             for (int mask = 1; mask < 1 << s[1]; mask++) {
                 RelexBuffer x = made(s);
@@ -89,7 +89,8 @@ public final class TablesEdgesTest {
                 int due = outside(from, 0, s[0] - 1) ? BAD : OK;
                 CHECK.due("setEdges(" + from + ", 1, 0)", made(s).setEdges(from, 1, 0), due);
                 CHECK.due("setEdges(" + from + ", 1, NONE)", made(s).setEdges(from, 1, NONE), due);
-                CHECK.due("setEdges(" + from + ", 1, 0), text", locked(s).setEdges(from, 1, 0), due == OK ? LOCKED : BAD);
+                CHECK.due("setEdges(" + from + ", 1, 0), text", locked(s).setEdges(from, 1, 0),
+                    due == OK ? LOCKED : BAD);
             }
             for (int v : FAR) {
                 CHECK.due("setEdges(" + v + ", 1, 0)", made(s).setEdges(v, 1, 0), BAD);
@@ -104,7 +105,8 @@ public final class TablesEdgesTest {
             for (int mask = -260; mask <= 260; mask++) {
                 int due = outside(mask, 1, (1 << s[1]) - 1) ? BAD : OK;
                 CHECK.due("setEdges(0, " + mask + ", 0)", made(s).setEdges(0, mask, 0), due);
-                CHECK.due("setEdges(0, " + mask + ", 0), text", locked(s).setEdges(0, mask, 0), due == OK ? LOCKED : BAD);
+                CHECK.due("setEdges(0, " + mask + ", 0), text", locked(s).setEdges(0, mask, 0),
+                    due == OK ? LOCKED : BAD);
             }
             for (int v : FAR) {
                 CHECK.due("setEdges(0, " + v + ", 0)", made(s).setEdges(0, v, 0), BAD);

@@ -6,40 +6,37 @@ public final class TermsEdgesTest {
     private static final Check CHECK = new Check();
     private static final int BAD = RelexBuffer.BAD;
     private static final int[][] SIZES = {{8, 4, 2, 1}, {20, 7, 5, 3}, {64, 16, 8, 4}};
-    private static final int[] ODD = {
-        Integer.MIN_VALUE, -3, -2, -1, 0, 1, 2, 3, 4, 5, 6, 7, 8, 9, 15, 16, 63, 64, 65, Integer.MAX_VALUE
-    };
 
     public static void main(String[] args) {
-        capacityIsTheGreatestLength();
-        ranges();
-        edgesOfEveryStateAndSymbol();
-        kindsAndNextModes();
-        startOfEveryMode();
-        tablesOnlyWhileEmpty();
-        tablesWhenEmptyAgain();
-        stateWithoutAnyEdge();
-        endOfTextOrNoEdge();
-        lastBestWins();
-        noEdgeAtTheEndOfTheText();
-        acceptingStart();
-        startAndModeInEveryCase();
-        reachIsBeyondTheStart();
-        reachBeyondTheText();
-        modeAfterAToken();
-        noBest();
-        reachBeyondTheEnd();
-        emptyTextHasNoTokens();
-        firstTokenAndFurtherTokens();
-        tokensAreNumberedFromZero();
-        splicesAreNumberedFromOne();
-        everyTokenHasABirth();
-        badChangesNothing();
-        lockedChangesNothing();
-        fullChangesNothing();
-        readersChangeNothing();
-        firstCaseDecides();
-        CHECK.end();
+        CHECK.each(
+            TermsEdgesTest::capacityIsTheGreatestLength,
+            TermsEdgesTest::ranges,
+            TermsEdgesTest::edgesOfEveryStateAndSymbol,
+            TermsEdgesTest::kindsAndNextModes,
+            TermsEdgesTest::startOfEveryMode,
+            TermsEdgesTest::tablesOnlyWhileEmpty,
+            TermsEdgesTest::tablesWhenEmptyAgain,
+            TermsEdgesTest::stateWithoutAnyEdge,
+            TermsEdgesTest::endOfTextOrNoEdge,
+            TermsEdgesTest::lastBestWins,
+            TermsEdgesTest::noEdgeAtTheEndOfTheText,
+            TermsEdgesTest::acceptingStart,
+            TermsEdgesTest::startAndModeInEveryCase,
+            TermsEdgesTest::reachIsBeyondTheStart,
+            TermsEdgesTest::reachBeyondTheText,
+            TermsEdgesTest::modeAfterAToken,
+            TermsEdgesTest::noBest,
+            TermsEdgesTest::reachBeyondTheEnd,
+            TermsEdgesTest::emptyTextHasNoTokens,
+            TermsEdgesTest::firstTokenAndFurtherTokens,
+            TermsEdgesTest::tokensAreNumberedFromZero,
+            TermsEdgesTest::splicesAreNumberedFromOne,
+            TermsEdgesTest::everyTokenHasABirth,
+            TermsEdgesTest::badChangesNothing,
+            TermsEdgesTest::lockedChangesNothing,
+            TermsEdgesTest::fullChangesNothing,
+            TermsEdgesTest::readersChangeNothing,
+            TermsEdgesTest::firstCaseDecides);
     }
 
     private static void column(RelexBuffer x, int field, String due) {
@@ -418,7 +415,8 @@ public final class TermsEdgesTest {
     }
 
     private static void everyTokenHasABirth() {
-        CHECK.sentence("BIRTH", "Every token has a BIRTH, the number of an executed splice, settled as Promise 9 says.");
+        CHECK.sentence("BIRTH", "Every token has a BIRTH, the number of an executed splice, settled as Promise 9"
+            + " says.");
         RelexBuffer x = Sample.empty(16);
         for (int round = 0; round < 300; round++) {
             x.splice(round * 7 % (x.length() + 1), 0, round % 3, round * 0x31 & 0x33);
@@ -490,7 +488,7 @@ public final class TermsEdgesTest {
     private static void badSplices(Supplier<RelexBuffer> maker) {
         int[][] calls = {
             {-1, 0, 1, 0}, {9, 0, 1, 0}, {0, -1, 1, 0}, {0, 9, 1, 0}, {0, 0, -1, 0}, {0, 0, 9, 0}, {0, 0, 1, 4},
-            {0, 0, 8, 0x40000000}, {0, 0, 8, 0x80000000}, {0, 0, 2, 0x4F}, {0, 0, 3, 0x410}
+            {0, 0, 8, 0x40000000}, {0, 0, 8, 0x80000000}, {0, 0, 2, 0x4F}, {0, 0, 3, 0x410}, {0, 1, 1, 4}, {3, 5, 9, 0}
         };
         for (int[] c : calls) {
             String name = "splice(" + c[0] + ", " + c[1] + ", " + c[2] + ", " + c[3] + ")";
@@ -522,26 +520,15 @@ public final class TermsEdgesTest {
         Untouched.by(CHECK, TermsEdgesTest::sixty, "splice(0, 3, 8, 0)", x -> x.splice(0, 3, 8, 0), RelexBuffer.FULL);
     }
 
-    private static int askAll(RelexBuffer x, int a, int b) {
-        return x.edge(a, b) + x.acceptKind(a) + x.acceptMode(a) + x.start(a) + x.edits() + x.length() + x.symbolAt(a)
-            + x.tokenCount() + x.token(a, b) + x.tokenAt(a) + x.stableCount(a) + x.endMode();
+    private static int askAll(RelexBuffer x, int v) {
+        return x.edge(v, 0) + x.edge(0, v) + x.acceptKind(v) + x.acceptMode(v) + x.start(v) + x.edits() + x.length()
+            + x.symbolAt(v) + x.tokenCount() + x.token(v, 0) + x.token(0, v) + x.tokenAt(v) + x.stableCount(v)
+            + x.endMode();
     }
 
     private static void readersChangeNothing() {
         CHECK.sentence("Changes", "Only `setEdges`, `setAccept`, `setStart` and `splice` ever change anything.");
-        List<Supplier<RelexBuffer>> makers = List.of(Sample::filled, TermsEdgesTest::brimful, () -> Sample.empty(8));
-        for (Supplier<RelexBuffer> maker : makers) {
-            RelexBuffer x = maker.get();
-            String before = Picture.all(maker.get());
-            for (int a : ODD) {
-                for (int b : ODD) {
-                    int first = askAll(x, a, b);
-                    CHECK.due("all readers with " + a + ", " + b + " once more", askAll(x, a, b), first);
-                }
-            }
-            CHECK.holds("the readers have changed nothing", Picture.all(x).equals(before));
-            Untouched.goOnAlike(CHECK, "after all readers", x, maker.get());
-        }
+        Untouched.byAsking(CHECK, TermsEdgesTest::askAll);
     }
 
     private static void firstCaseDecides() {

@@ -7,30 +7,31 @@ public final class TokensEdgesTest {
         65, 66, 127, 128, 256, 384, 65536, 1 << 28, 1 << 30, Integer.MAX_VALUE - 1, Integer.MAX_VALUE
     };
     private static final String[] TEXTS = {
-        "a", "b", "\"", "aab\"ab\"a", "aabbaabb", "\"ab a\"ab", "b b b b ", "a\"\"a\"\"a", "aaaaaaaa", "\"aaaaaaa", "aabaabaa"
+        "a", "b", "\"", "aab\"ab\"a", "aabbaabb", "\"ab a\"ab", "b b b b ",
+        "a\"\"a\"\"a", "aaaaaaaa", "\"aaaaaaa", "aabaabaa"
     };
 
     public static void main(String[] args) {
-        countIsZeroWhenEmpty();
-        countChangesNothing();
-        tokenBad();
-        tokenAnswers();
-        tokenOfAnEmptyText();
-        tokenChangesNothing();
-        tokenAtBad();
-        tokenAtAnswers();
-        tokenAtChangesNothing();
-        stableBad();
-        stableIsTheGreatest();
-        stableTokensAreNotTouched();
-        stableCountsOnlyLeadingOnes();
-        stableAtTheLength();
-        stableAtZero();
-        stableChangesNothing();
-        endModeAnswers();
-        endModeIsAMode();
-        endModeChangesNothing();
-        CHECK.end();
+        CHECK.each(
+            TokensEdgesTest::countIsZeroWhenEmpty,
+            TokensEdgesTest::countChangesNothing,
+            TokensEdgesTest::tokenBad,
+            TokensEdgesTest::tokenAnswers,
+            TokensEdgesTest::tokenOfAnEmptyText,
+            TokensEdgesTest::tokenChangesNothing,
+            TokensEdgesTest::tokenAtBad,
+            TokensEdgesTest::tokenAtAnswers,
+            TokensEdgesTest::tokenAtChangesNothing,
+            TokensEdgesTest::stableBad,
+            TokensEdgesTest::stableIsTheGreatest,
+            TokensEdgesTest::stableTokensAreNotTouched,
+            TokensEdgesTest::stableCountsOnlyLeadingOnes,
+            TokensEdgesTest::stableAtTheLength,
+            TokensEdgesTest::stableAtZero,
+            TokensEdgesTest::stableChangesNothing,
+            TokensEdgesTest::endModeAnswers,
+            TokensEdgesTest::endModeIsAMode,
+            TokensEdgesTest::endModeChangesNothing);
     }
 
     private static RelexBuffer plain(String text) {
@@ -61,8 +62,8 @@ public final class TokensEdgesTest {
     }
 
     private static void countIsZeroWhenEmpty() {
-        CHECK.sentence("Promise 13", "`tokenCount()` answers the number of tokens of the present text, which is 0 exactly"
-            + " when the text is empty.");
+        CHECK.sentence("Promise 13", "`tokenCount()` answers the number of tokens of the present text, which is 0"
+            + " exactly when the text is empty.");
         for (int length = 0; length <= 64; length++) {
             CHECK.due("tokenCount(), singles", singles(length).tokenCount(), length);
             CHECK.due("tokenCount(), one token", single(length).tokenCount(), length == 0 ? 0 : 1);
@@ -114,7 +115,9 @@ public final class TokensEdgesTest {
             + " `REACH` or `BIRTH`) of token `i` of the present text.");
         RelexBuffer x = plain("aab\"ab\"a");
         x.splice(8, 0, 1, 3);
-        String[] due = {"0 2 3 4 6 7 8", "2 3 4 6 7 8 9", "1 0 3 4 5 1 0", "0 0 0 1 1 0 0", "4 3 4 7 7 9 9", "1 1 1 1 1 2 2"};
+        String[] due = {
+            "0 2 3 4 6 7 8", "2 3 4 6 7 8 9", "1 0 3 4 5 1 0", "0 0 0 1 1 0 0", "4 3 4 7 7 9 9", "1 1 1 1 1 2 2"
+        };
         for (int field = 0; field <= 5; field++) {
             CHECK.due("field " + field, Sample.column(x, field), due[field]);
         }
@@ -150,8 +153,8 @@ public final class TokensEdgesTest {
     }
 
     private static void tokenAtBad() {
-        CHECK.sentence("Promise 15", "`tokenAt(pos)` answers `BAD` if `pos` < 0 or `pos` >= length; so with an empty text"
-            + " it always answers `BAD`.");
+        CHECK.sentence("Promise 15", "`tokenAt(pos)` answers `BAD` if `pos` < 0 or `pos` >= length; so with an empty"
+            + " text it always answers `BAD`.");
         for (int length : new int[] {0, 1, 2, 7, 8, 63, 64}) {
             RelexBuffer one = single(length);
             RelexBuffer many = singles(length);
@@ -302,8 +305,8 @@ public final class TokensEdgesTest {
     }
 
     private static void endModeAnswers() {
-        CHECK.sentence("Promise 17", "`endMode()` answers the mode after the last token of the present text, or 0 if the"
-            + " text is empty.");
+        CHECK.sentence("Promise 17", "`endMode()` answers the mode after the last token of the present text, or 0 if"
+            + " the text is empty.");
         RelexBuffer x = Sample.empty(16);
         CHECK.due("endMode(), empty", x.endMode(), 0);
         String[] texts = {"\"", "\"a", "\"a\"", "a\"", "b", "\"\"", "\"\"\"", "aa\"b", "\"b"};

@@ -8,8 +8,18 @@ final class Untouched {
     private static final int[] ASKED = {
         Integer.MIN_VALUE, -65, -2, -1, 0, 1, 2, 3, 4, 5, 6, 7, 8, 9, 15, 16, 17, 63, 64, 65, 66, Integer.MAX_VALUE
     };
+    /** An empty text, one that ends in mode 0 and one that ends in mode 1. */
+    private static final List<Supplier<RelexBuffer>> MAKERS =
+        List.of(() -> Sample.empty(8), Sample::filled, Untouched::withinQuotes);
 
     private Untouched() {
+    }
+
+    private static RelexBuffer withinQuotes() {
+        RelexBuffer x = Sample.empty(8);
+        Sample.put(x, 0, 0, "aab\"a");
+        Sample.put(x, 1, 0, "ab");
+        return x;
     }
 
     /** A call with its answer that is due, on a buffer that maker builds the same each time. */
@@ -21,18 +31,23 @@ final class Untouched {
         goOnAlike(check, "after " + name, x, maker.get());
     }
 
-    /** A reader, asked twice with good and wrong arguments on an empty text and on one that is not. */
+    /** A reader, asked with good and wrong arguments. */
     static void byAsking(Check check, ToIntBiFunction<RelexBuffer, Integer> reader) {
-        List<Supplier<RelexBuffer>> makers = List.of(Sample::filled, () -> Sample.empty(8));
-        for (Supplier<RelexBuffer> maker : makers) {
-            RelexBuffer x = maker.get();
-            for (int v : ASKED) {
-                int first = reader.applyAsInt(x, v);
-                check.due("the reader with " + v + " once more", reader.applyAsInt(x, v), first);
+        for (Supplier<RelexBuffer> maker : MAKERS) {
+            // Each question is the first one of a new buffer, so that no other reader can hide or make a change.
+            for (ToIntFunction<RelexBuffer> question : Picture.questions()) {
+                RelexBuffer x = askedAll(reader, maker.get());
+                check.due("a question after the reader", question.applyAsInt(x), question.applyAsInt(maker.get()));
             }
-            check.holds("the reader has changed nothing", Picture.all(x).equals(Picture.all(maker.get())));
-            goOnAlike(check, "after the reader", x, maker.get());
+            goOnAlike(check, "after the reader", askedAll(reader, maker.get()), maker.get());
         }
+    }
+
+    private static RelexBuffer askedAll(ToIntBiFunction<RelexBuffer, Integer> reader, RelexBuffer x) {
+        for (int v : ASKED) {
+            reader.applyAsInt(x, v);
+        }
+        return x;
     }
 
     /** A trace that can't be asked for may still show in later splices and tables. */
